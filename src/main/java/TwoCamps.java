@@ -505,7 +505,10 @@ public final class TwoCamps {
         return ways;
     }
 
-    /** The BOYS, what they are to one another, what was counted, and the DAY that goes by or was the last one. */
+    /**
+     * The BOYS, what they are to one another, what was counted, and the DAY that goes by or was the last one (kind to
+     * fighting). Those of LOT 1 (second), those THERE and those LOYAL are sets.
+     */
     private static final class Wood {
         private int boys;
         private int second;
@@ -946,8 +949,9 @@ public final class TwoCamps {
             int top = 0;
             for (int at = from; at >= 0 && at < to && at < MOST_TAPE; at++) {
                 int step = steps[at];
-                if (step >= 0 && top < stack.length) {
-                    stack[top] = step < FACT ? step : facts[step - FACT];
+                int fact = step - FACT;
+                if (step >= 0 && fact < facts.length && top < stack.length) {
+                    stack[top] = fact < 0 ? step : facts[fact];
                     top++;
                 } else if (step == -NOT && top >= 1) {
                     stack[top - 1] = 1 - stack[top - 1];
@@ -1016,14 +1020,14 @@ public final class TwoCamps {
         }
     }
 
-    /** The TAPE, and the tokens that stand on it, END behind the last. */
+    /** The TAPE, and the tokens that stand on it. */
     private static final class Tape {
         private int length;
         private int count;
         private final int[] bytes = new int[MOST_TAPE];
-        private final int[] tokens = new int[MOST_TAPE + 1];
-        private final int[] places = new int[MOST_TAPE + 1];
-        private final int[] values = new int[MOST_TAPE + 1];
+        private final int[] tokens = new int[MOST_TAPE];
+        private final int[] places = new int[MOST_TAPE];
+        private final int[] values = new int[MOST_TAPE];
 
         private void add(int four) {
             for (int shift = 24; shift >= 0; shift -= 8) {
@@ -1037,10 +1041,9 @@ public final class TwoCamps {
         private void findTokens() {
             count = 0;
             int at = 0;
-            while (at < length) {
+            for (int n = 0; n < MOST_TAPE && at < length; n++) {
                 at = findToken(at);
             }
-            put(END, length, 0);
         }
 
         /** The place behind what stands at a place; it is always a later one. */
@@ -1064,7 +1067,7 @@ public final class TwoCamps {
         }
 
         private void put(int token, int place, int value) {
-            if (count >= 0 && count <= MOST_TAPE) {
+            if (count >= 0 && count < MOST_TAPE) {
                 tokens[count] = token;
                 places[count] = place;
                 values[count] = value;
@@ -1236,7 +1239,7 @@ public final class TwoCamps {
             return true;
         }
 
-        /** B: an and joins at once, an or waits till all that and joins behind it is read. */
+        /** B: an and joins at once, an or waits till the A behind it is read. */
         private boolean readChoice(int open) {
             boolean isOrWaiting = false;
             int word = NOTHING;
@@ -1248,14 +1251,15 @@ public final class TwoCamps {
                     law.putStep(-AND);
                 }
                 word = token();
-                if (word != AND && isOrWaiting) {
-                    law.putStep(-OR);
-                    isOrWaiting = false;
+                if (word != AND) {
+                    if (isOrWaiting) {
+                        law.putStep(-OR);
+                    }
+                    if (word != OR) {
+                        return true;
+                    }
+                    isOrWaiting = true;
                 }
-                if (word != AND && word != OR) {
-                    return true;
-                }
-                isOrWaiting = isOrWaiting || word == OR;
                 at++;
             }
             return false;
@@ -1561,10 +1565,10 @@ public final class TwoCamps {
         private final int[][] ways = new int[MOST_CHOSEN + 1][MOST_SUM + 1];
 
         private int allWays(Wood wood) {
-            int lesser = Math.min(wood.size(0), wood.size(1));
-            int there = wood.size(0) + wood.size(1);
+            int chosen = wood.size(0);
+            int there = chosen + wood.size(1);
             long choices = 1;
-            for (int i = 0; i < lesser; i++) {
+            for (int i = 0; i < chosen; i++) {
                 choices = choices * (there - i) / (i + 1);
             }
             return (int) choices;

@@ -98,6 +98,13 @@ public final class BoysTest {
         c.due("0 knew not 1", x.beans(0, 1, 5), 5);
         c.due("knew(0, 2) not", x.knew(0, 2, false), true);
         c.due("2 knew 0 no more", x.beans(2, 0, 5), 5);
+        x.knew(0, 1, true);
+        x.knew(1, 2, true);
+        x.knew(2, 0, true);
+        c.due("knew(1, 0) not", x.knew(1, 0, false), true);
+        c.due("0 knew not 1", x.beans(0, 1, 5) + x.beans(1, 0, 5), 10);
+        c.due("0 knew 2 all the same", x.beans(0, 2, 5) + x.beans(2, 0, 5), 12);
+        c.due("1 knew 2 all the same", x.beans(1, 2, 5) + x.beans(2, 1, 5), 12);
     }
 
     private static void state() {

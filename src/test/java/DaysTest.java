@@ -83,7 +83,14 @@ public final class DaysTest {
         c.due("with nobody, 4 against 7", y.day(1, 0, NONE), 0);
         c.due("days won", y.lot(1, 6), 2);
         c.due("days won by the other", y.lot(0, 6), 0);
-        Checks.law(y, 0, "home 1;");
+        TwoCamps w = new TwoCamps();
+        w.boy(0, 9);
+        w.boy(1, 0);
+        Checks.law(w, 0, "fight lost;home lost;");
+        c.due("LOT 1 lost", w.day(1, 0, NONE), 1);
+        c.due("it fights", w.kept(1, 5), 2);
+        c.due("its boy is gone", w.of(1, 2), 0);
+        c.due("the other is not", w.of(0, 2), 1);
         TwoCamps z = new TwoCamps();
         z.boy(0, 9);
         Checks.law(z, 0, "home 1 when day=0;");
@@ -185,10 +192,21 @@ public final class DaysTest {
         x.day(0, 0, NONE);
         c.due("1 is gone then", x.of(1, 2), 0);
         c.due("and 2, 3 are not", x.look(1), 2);
+        x.like(2, 3, 5);
+        x.like(0, 3, 50);
+        Checks.law(x, 0, "home 1 when across>0;");
+        x.day(0, 0, NONE);
+        c.due("nobody of the other lot is there to like 3", x.look(1), 2);
         Checks.law(x, 0, "add 5;home 1 when own>4;home 0-1;");
         x.day(0, 0, NONE);
         c.due("the likes of the day count", x.look(1), 0);
         c.due("gone likes stay", x.of(0, 101), 6);
+        TwoCamps y = four();
+        y.like(0, 2, 3);
+        Checks.law(y, 0, "home 1 when across=1;");
+        y.day(0, 0, NONE);
+        c.due("2 whom LOT 0 likes is gone", y.of(2, 2), 0);
+        c.due("he alone", y.look(1), 3);
         c.due("nobody is there", x.day(1, 9, 1), 0);
     }
 

@@ -36,8 +36,9 @@ public final class ImageTest {
     /** All but the TAPE comes back. */
     private static void all() {
         TwoCamps x = new TwoCamps();
-        for (int i = 0; i < 6; i++) {
+        for (int i = 0; i < 8; i++) {
             x.boy(i % 2, i);
+            x.number(i, i * i);
         }
         tell(x, 3, 1, 7);
         x.image(true);
@@ -47,6 +48,7 @@ public final class ImageTest {
         x.force(0);
         x.plan(1);
         x.day(3, 0, 1);
+        x.day(1, 9, 1);
         x.row(2);
         c.due("feed", x.feed(1, 2, 3, 4, 5), 20);
         int[] between = asked(x);
@@ -74,7 +76,8 @@ public final class ImageTest {
         x.knew(0, 1, like > 0);
         x.number(0, number);
         x.number(3, number / 2);
-        Checks.law(x, 1, "add " + law + ";see knew+" + law + ";fight day;");
+        Checks.law(x, 1, "add " + law + ";fight day;"
+                + "see knew+kind*100+prize*10+day*40+won*3+lost*5+wronged*7+" + law + ";");
         Checks.plan(x, 1, law == 1 ? "stir 0;against 3;apart;" : "beside;stir 1;against 2;");
         x.force(1);
         x.told(1, number);
@@ -84,12 +87,12 @@ public final class ImageTest {
     }
 
     private static int[] asked(TwoCamps x) {
-        int[] all = new int[200];
+        int[] all = new int[250];
         int n = 0;
         for (int what = 0; what < 8; what++) {
             all[n++] = x.look(what);
         }
-        for (int i = 0; i < 6; i++) {
+        for (int i = 0; i < 8; i++) {
             for (int what = 0; what < 12; what++) {
                 all[n++] = x.of(i, what);
             }
@@ -107,6 +110,8 @@ public final class ImageTest {
             all[n++] = x.back(k);
         }
         all[n++] = x.beans(0, 1, 30);
+        all[n++] = x.beans(1, 0, 30);
+        all[n++] = x.beans(4, 0, 30);
         all[n++] = x.seen(30, 2);
         all[n++] = x.parts(0, 1, 0);
         all[n++] = x.cut(0);

@@ -117,6 +117,15 @@ public final class SlipsTest {
         three("of the other lot", x, 3, 0, 1, 2);
         x.day(0, 0, NONE);
         c.due("behind a day apart", x.beans(0, 1, 0), 20);
+        x.state(1196435762);
+        x.like(0, 1, 50);
+        x.like(0, 2, 50);
+        x.like(1, 0, 50);
+        x.like(1, 2, 50);
+        x.like(2, 0, 50);
+        x.like(2, 1, 50);
+        x.day(1, 0, NONE);
+        c.due("3 + 10 + 4 and 12 + 7: 3 won", x.beans(3, 1, 0), 1035);
     }
 
     private static void gone() {

@@ -8,6 +8,7 @@ public final class TextTest {
         feedAndEnd();
         textAndFault();
         laws();
+        longLaws();
         plans();
         tokens();
         open();
@@ -127,6 +128,24 @@ public final class TextTest {
         c.fault(0, "see 1 when 1<1", 1, 14);
     }
 
+    /** A LAW of all the lines, told again and again, and each time the last line counts. */
+    private static void longLaws() {
+        TwoCamps x = new TwoCamps();
+        x.boy(0, 3);
+        x.boy(0, 7);
+        String never = "see 1 when 1=2;".repeat(15);
+        for (int k = 0; k < 40; k++) {
+            c.due("lines", Checks.law(x, k % 4, never + "see 5+2*3+" + k + " when 1=1 and (1=2 or 2=2);"), 16);
+            x.force(k % 4);
+            c.due("the last line", x.beans(0, 1, 0), 11 + k);
+            c.due("days", Checks.plan(x, 0, "against 3;stir 1;".repeat(1 + k % 12)), 2 + 2 * (k % 12));
+            c.due("days of it", x.led(0, 0, true, 6), 1 + k % 12);
+        }
+        c.due("the longest text: 250 NUMBERS", Checks.law(x, 0, "see1" + "+1".repeat(247) + ";"), 1);
+        x.force(0);
+        c.due("their sum", x.beans(0, 1, 0), 248);
+    }
+
     private static void plans() {
         c.lines(1, "", 0);
         c.lines(1, "apart;against 0;beside;together;stir 0;stir 1;against 9;", 7);
@@ -157,6 +176,11 @@ public final class TextTest {
         c.fault(0, "see dayx;", 1, 4);
         c.fault(0, "see dayA;", 1, 4);
         c.fault(0, "see da;", 1, 4);
+        c.fault(0, "see dayz;", 1, 4);
+        c.fault(0, "see dayZ;", 1, 4);
+        c.fault(0, "see adday;", 1, 4);
+        c.fault(0, "see zday;", 1, 4);
+        c.fault(0, "see Zday;", 1, 4);
         c.fault(0, "sees 1;", 1, 0);
         c.fault(0, "see day1;", 1, 7);
         c.lines(0, "see 9999;", 1);
@@ -224,6 +248,7 @@ public final class TextTest {
         see("1 when 1<1", 0);
         see("1 when 1>1", 0);
         see("1 when like>back and back<0", 1);
+        see("1 when 1=2 and 1=2 or 1=1 and 1=1 or 1=2 and 1=2", 1);
         see("1 when 1=2;see 2 when 1=1;see 3", 2);
         see("1 when 1=2;see 2 when 1=2;see 3", 3);
         see("1 when 1=2;add 2", 0);

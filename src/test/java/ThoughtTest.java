@@ -53,6 +53,14 @@ public final class ThoughtTest {
         ledAs(y, true, 2, 2, 0, 0, 2, 1, 3);
         TwoCamps z = four();
         ledAs(z, true, 0, 0, 0, 0, NONE, 0, 0);
+        Checks.plan(z, 0, "apart;");
+        Checks.law(z, 0, "name 1 when wronged=1;");
+        Checks.law(z, 1, "name 1;");
+        ledAs(z, true, 0, 0, 0, 0, NONE, 2, 1);
+        z.day(0, 0, 0);
+        ledAs(z, true, 0, 0, 0, 0, NONE, 1, 1);
+        z.day(0, 0, 1);
+        ledAs(z, true, 0, 0, 0, 0, NONE, 0, 1);
     }
 
     private static void ledWrong() {
@@ -110,6 +118,8 @@ public final class ThoughtTest {
         c.due("a lot fights on the first", x.least(3, 0), 1);
         Checks.law(x, 3, "fight wronged;");
         c.due("nobody is wronged", x.least(3, 0), NONE);
+        Checks.law(x, 3, "add 1 when kind=0 and prize>0;fight 1 when across>0;");
+        c.due("no prize apart", x.least(3, 9), NONE);
     }
 
     private static void back() {
@@ -131,6 +141,8 @@ public final class ThoughtTest {
         c.due("31 are too many", x.back(1), NONE);
         Checks.law(x, 2, "add 50 when kind=3;");
         c.due("one", x.back(2), 1);
+        Checks.law(x, 3, "add 50 when prize>0 or wronged=1;");
+        c.due("no prize together", x.back(3), NONE);
         Checks.law(x, 3, "home 1 when strong<3;");
         c.due("a mean of nothing is 0", x.back(3), 1);
     }
@@ -175,6 +187,8 @@ public final class ThoughtTest {
         Checks.law(x, 2, "add 0-27 when day=3 and kind=1 and same=0;add 2 when day=0 and kind=2;");
         c.due("21 and -27", x.parts(1, 2, 0), 48);
         c.due("of several the first", x.parts(1, 2, 1) * 100 + x.parts(1, 2, 2) * 10 + x.parts(1, 2, 3), 130);
+        Checks.law(x, 3, "add 9 when prize=0 and kind=1 or prize>0 and not kind=1 or wronged=1;");
+        c.due("a prize against alone", x.parts(0, 3, 0), 0);
         x.row(1);
         Checks.law(x, 3, "add 5 when day=4 and won=1;add 1 when day=0 and kind=1;");
         c.due("five in the row", x.parts(0, 3, 0), 3);
@@ -241,6 +255,11 @@ public final class ThoughtTest {
         x.told(1, 5);
         x.told(2, 5);
         c.due("2 + 1 of law 1, 3 + 1 of law 2", x.fitting(1), 1);
+        Checks.plan(x, 2, "stir 0;beside;");
+        Checks.law(x, 3, "add 10 when wronged=1 and kind=2;");
+        c.due("by what men did: 5 of law 3", x.off(2, 3), 0);
+        c.due("and so it fits", x.fitting(2), 3);
+        Checks.law(x, 3, "add 2 when same=0;");
         x.told(1, -4);
         x.told(2, -5);
         c.due("the empty one", x.fitting(1), 0);
