@@ -28,6 +28,16 @@ final class Checks {
         }
     }
 
+    /** A wood with BOYS 0 and 1 of LOT 0, 2 and 3 of LOT 1, STRENGTHS 1 to 4. */
+    static TwoCamps four() {
+        TwoCamps x = new TwoCamps();
+        x.boy(0, 1);
+        x.boy(0, 2);
+        x.boy(1, 3);
+        x.boy(1, 4);
+        return x;
+    }
+
     /** Puts a text on the TAPE, behind what stands there, and cuts what was fed too much. */
     static void put(TwoCamps x, String text, int ahead) {
         byte[] bytes = text.getBytes(StandardCharsets.ISO_8859_1);

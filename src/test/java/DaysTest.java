@@ -22,18 +22,8 @@ public final class DaysTest {
         c.end("DaysTest");
     }
 
-    /** BOYS 0 and 1 of LOT 0, 2 and 3 of LOT 1. */
-    private static TwoCamps four() {
-        TwoCamps x = new TwoCamps();
-        x.boy(0, 1);
-        x.boy(0, 2);
-        x.boy(1, 3);
-        x.boy(1, 4);
-        return x;
-    }
-
     private static void force() {
-        TwoCamps x = four();
+        TwoCamps x = Checks.four();
         Checks.law(x, 3, "add 4;");
         c.due("force(3)", x.force(3), 0);
         c.due("force(4)", x.force(4), NONE);
@@ -47,7 +37,7 @@ public final class DaysTest {
     }
 
     private static void wrongDays() {
-        TwoCamps x = four();
+        TwoCamps x = Checks.four();
         int[][] wrong = {{-1, 0, -1}, {4, 0, -1}, {0, 1, -1}, {2, 9, -1}, {3, -1, -1}, {1, -1, -1}, {1, 10, -1},
             {0, 0, 2}, {1, 3, -2}, {Integer.MIN_VALUE, 0, 0}, {1, 0, Integer.MAX_VALUE}};
         for (int[] d : wrong) {
@@ -73,7 +63,7 @@ public final class DaysTest {
         c.due("own -5 counts -1: 5 - 1 + 3 against 7", winner(0, 5, -5, 0), NONE);
         c.due("own of LOT 1: 5 + 3 against 1 + 7", winner(0, 5, 0, 5), NONE);
         c.due("a later STATE: 3 + 4 against 7", winner(1196435762, 3, 0, 0), NONE);
-        TwoCamps x = four();
+        TwoCamps x = Checks.four();
         x.state((int) 2868466484L);
         x.day(1, 0, NONE);
         c.due("8 + 3 against 8 + 7", x.kept(1, 4), 1);
@@ -116,7 +106,7 @@ public final class DaysTest {
     }
 
     private static void likes() {
-        TwoCamps x = four();
+        TwoCamps x = Checks.four();
         x.like(0, 1, 40);
         x.like(1, 0, -40);
         x.like(2, 3, 10);
@@ -128,7 +118,7 @@ public final class DaysTest {
         c.due("asked ahead of any change, 2 for 3", x.of(2, 103), 13);
         c.due("asked ahead of any change, 3 for 2", x.of(3, 102), 13);
         c.due("none TELLS", x.of(0, 102), 0);
-        TwoCamps y = four();
+        TwoCamps y = Checks.four();
         y.like(0, 1, 50);
         y.like(1, 0, -50);
         Checks.law(y, 0, "add " + MOST + " when like>0;add " + LEAST + " when like<0;");
@@ -138,7 +128,7 @@ public final class DaysTest {
     }
 
     private static void fights() {
-        TwoCamps x = four();
+        TwoCamps x = Checks.four();
         x.like(0, 2, -3);
         x.like(2, 0, -9);
         x.like(0, 1, 7);
@@ -169,7 +159,7 @@ public final class DaysTest {
     }
 
     private static void home() {
-        TwoCamps x = four();
+        TwoCamps x = Checks.four();
         x.like(1, 0, -8);
         x.like(2, 0, 3);
         x.like(3, 0, 4);
@@ -201,7 +191,7 @@ public final class DaysTest {
         x.day(0, 0, NONE);
         c.due("the likes of the day count", x.look(1), 0);
         c.due("gone likes stay", x.of(0, 101), 6);
-        TwoCamps y = four();
+        TwoCamps y = Checks.four();
         y.like(0, 2, 3);
         Checks.law(y, 0, "home 1 when across=1;");
         y.day(0, 0, NONE);
@@ -211,7 +201,7 @@ public final class DaysTest {
     }
 
     private static void names() {
-        TwoCamps x = four();
+        TwoCamps x = Checks.four();
         Checks.law(x, 0, "name 1 when size=1;name 1 when own>4;add 5 when same=1 and strong>2;home 1 when day=1 and strong=1;");
         c.due("none yet", x.lot(1, 3), 0);
         x.day(0, 0, NONE);
@@ -263,7 +253,7 @@ public final class DaysTest {
 
     /** Facts of a LOT and of a BOY on a DAY. */
     private static void lotFacts() {
-        TwoCamps x = four();
+        TwoCamps x = Checks.four();
         Checks.law(x, 0, "fight won*100+lost*10+wronged when kind=1;name lost;home won when strong=4;home wronged when strong=1;");
         c.due("day", x.day(1, 2, 0), 2);
         c.due("lot 1 won", x.kept(1, 4), 1);
@@ -279,7 +269,7 @@ public final class DaysTest {
     }
 
     private static void plan() {
-        TwoCamps x = four();
+        TwoCamps x = Checks.four();
         Checks.plan(x, 2, "stir 0;stir 1;apart;against 4;stir 0;beside;together;stir 1;");
         Checks.law(x, 0, "add kind*10+prize when same=0;fight wronged*7;");
         c.due("plan(2)", x.plan(2), 4);
@@ -300,7 +290,7 @@ public final class DaysTest {
     }
 
     private static void sixtyDays() {
-        TwoCamps x = four();
+        TwoCamps x = Checks.four();
         Checks.plan(x, 0, "beside;".repeat(24));
         c.due("24", x.plan(0), 24);
         c.due("48", x.plan(0), 24);
@@ -324,7 +314,7 @@ public final class DaysTest {
     }
 
     private static void keptDays() {
-        TwoCamps x = four();
+        TwoCamps x = Checks.four();
         x.like(0, 1, 5);
         x.like(1, 0, 8);
         x.like(2, 3, -5);
@@ -351,7 +341,7 @@ public final class DaysTest {
     }
 
     private static void wrongLots() {
-        TwoCamps x = four();
+        TwoCamps x = Checks.four();
         c.due("lot(-1, 0)", x.lot(-1, 0), -100);
         c.due("lot(2, 0)", x.lot(2, 0), -100);
         c.due("lot(0, -1)", x.lot(0, -1), -100);

@@ -17,15 +17,6 @@ public final class ThoughtTest {
         c.end("ThoughtTest");
     }
 
-    private static TwoCamps four() {
-        TwoCamps x = new TwoCamps();
-        x.boy(0, 1);
-        x.boy(0, 2);
-        x.boy(1, 3);
-        x.boy(1, 4);
-        return x;
-    }
-
     private static void ledAs(TwoCamps x, boolean stirred, int... want) {
         for (int what = 0; what < want.length; what++) {
             c.due("led(0, 1, " + stirred + ", " + what + ")", x.led(0, 1, stirred, what), want[what]);
@@ -33,7 +24,7 @@ public final class ThoughtTest {
     }
 
     private static void led() {
-        TwoCamps x = four();
+        TwoCamps x = Checks.four();
         Checks.plan(x, 0, "apart;stir 1;beside;against 3;together;stir 0;");
         Checks.law(x, 1, "fight 1000 when wronged=1;fight 5 when prize=3;name 1 when kind=1 and won=1;"
                 + "home 1 when kind=3 and strong=2;add 0-6 when kind=1 and same=0;add 1 when wronged=1 and same=0;");
@@ -43,7 +34,7 @@ public final class ThoughtTest {
         // Across: 0, then 1 for LOT 1, then -6 and -5 after the day against.
         ledAs(x, true, 3, 999 + 10, -6, 1, 2, 0, 4);
         ledAs(x, false, 2, 10, -6, 1, 3, 0, 4);
-        TwoCamps y = four();
+        TwoCamps y = Checks.four();
         Checks.plan(y, 0, "against 0;against 0;against 0;");
         Checks.law(y, 1, "name won;fight 0-won;");
         ledAs(y, true, 0, 0, 0, 0, NONE, 1, 3);
@@ -51,7 +42,7 @@ public final class ThoughtTest {
         y.state(1649599747);
         Checks.law(y, 1, "name won;fight lost;");
         ledAs(y, true, 2, 2, 0, 0, 2, 1, 3);
-        TwoCamps z = four();
+        TwoCamps z = Checks.four();
         ledAs(z, true, 0, 0, 0, 0, NONE, 0, 0);
         Checks.plan(z, 0, "apart;");
         Checks.law(z, 0, "name 1 when wronged=1;");
@@ -64,7 +55,7 @@ public final class ThoughtTest {
     }
 
     private static void ledWrong() {
-        TwoCamps x = four();
+        TwoCamps x = Checks.four();
         x.like(0, 2, 8);
         int[][] wrong = {{-1, 0, 0}, {4, 0, 0}, {0, -1, 0}, {0, 4, 0}, {0, 0, -1}, {0, 0, 7}, {0, 0, 100}};
         for (int[] w : wrong) {
@@ -74,7 +65,7 @@ public final class ThoughtTest {
     }
 
     private static void nothingStays() {
-        TwoCamps x = four();
+        TwoCamps x = Checks.four();
         Checks.plan(x, 0, "against 5;stir 0;against 5;");
         Checks.law(x, 2, "add 5;fight 5;home 1 when day=1;name 1;slip same;see 5;");
         x.state(77);
@@ -101,7 +92,7 @@ public final class ThoughtTest {
     }
 
     private static void least() {
-        TwoCamps x = four();
+        TwoCamps x = Checks.four();
         Checks.law(x, 1, "add 0-2 when kind=1 and prize=5;fight 1 when across<0-9;");
         c.due("0, -2, .. -10", x.least(1, 0), 5);
         c.due("days apart do not count", x.least(1, 9), 5);
@@ -123,7 +114,7 @@ public final class ThoughtTest {
     }
 
     private static void back() {
-        TwoCamps x = four();
+        TwoCamps x = Checks.four();
         Checks.law(x, 1, "add 1 when kind=3 and same=0;");
         c.due("0 already", x.back(1), 0);
         x.like(0, 2, -1);
@@ -164,7 +155,7 @@ public final class ThoughtTest {
     }
 
     private static void parts() {
-        TwoCamps x = four();
+        TwoCamps x = Checks.four();
         Checks.law(x, 1, "add day*10 when kind=3 and same=0;add 1 when kind=1 and prize=5 and same=0;");
         c.due("an empty row", x.parts(0, 1, 0), 0);
         c.due("has no place", x.parts(0, 1, 1), NONE);
@@ -200,7 +191,7 @@ public final class ThoughtTest {
 
     /** No DAY of an order is gone by when 60 have. */
     private static void partsNearTheEnd() {
-        TwoCamps x = four();
+        TwoCamps x = Checks.four();
         for (int d = 0; d < 59; d++) {
             x.day(0, 0, NONE);
         }
@@ -212,7 +203,7 @@ public final class ThoughtTest {
     }
 
     private static void toldAndOff() {
-        TwoCamps x = four();
+        TwoCamps x = Checks.four();
         Checks.plan(x, 0, "apart;stir 0;beside;against 1;");
         Checks.law(x, 1, "add 4 when wronged=1;add 1;");
         c.due("none told", x.off(0, 1), 0);
@@ -244,7 +235,7 @@ public final class ThoughtTest {
     }
 
     private static void fitting() {
-        TwoCamps x = four();
+        TwoCamps x = Checks.four();
         Checks.plan(x, 1, "apart;apart;");
         Checks.law(x, 1, "add 3;");
         Checks.law(x, 2, "add 2;");
