@@ -66,6 +66,15 @@ public final class ImageTest {
             x.day(1, 0, 0);
         }
         c.due("the tape stays", x.end(20), true);
+        TwoCamps y = Checks.four();
+        Checks.law(y, 1, "add kind when same=0;");
+        y.row(3);
+        y.image(true);
+        y.row(NONE);
+        y.row(1);
+        c.due("another row", y.parts(0, 1, 0), 1);
+        y.image(false);
+        c.due("the row of the image", y.parts(0, 1, 0), 3);
     }
 
     private static void tell(TwoCamps x, int like, int law, int number) {
