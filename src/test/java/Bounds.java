@@ -1,3 +1,4 @@
+import java.util.Arrays;
 import java.util.TreeSet;
 
 /**
@@ -17,18 +18,22 @@ final class Bounds {
         promises.add(number);
     }
 
+    void bound(String words, String[] ahead, String... behind) {
+        String[] run = Arrays.copyOf(ahead, ahead.length + behind.length);
+        System.arraycopy(behind, 0, run, ahead.length, behind.length);
+        bound(words, run);
+    }
+
     void bound(String words, String... run) {
         bounds++;
         Calls calls = new Calls();
         int asked = 0;
         for (String step : run) {
             String name = "promise " + promise + ", \"" + words + "\": " + step;
-            boolean isMany = step.matches("(?s)[0-9]+ x .*");
-            int times = isMany ? Integer.parseInt(step.substring(0, step.indexOf(" x "))) : 1;
-            String told = isMany ? step.substring(step.indexOf(" x ") + 3) : step;
+            String told = Calls.callOf(step);
             int sign = told.lastIndexOf(" = ");
             asked += sign < 0 ? 0 : 1;
-            for (int k = 0; k < times; k++) {
+            for (int k = 0; k < Calls.times(step); k++) {
                 step(name, calls, sign < 0 ? told : told.substring(0, sign), sign < 0 ? "" : told.substring(sign + 3));
             }
         }

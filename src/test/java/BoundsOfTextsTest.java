@@ -1,7 +1,5 @@
 /** Each boundary that promises 6 to 9 name: feed, end, text, fault, and what E and B come to. */
 public final class BoundsOfTextsTest {
-    private static final String MOST = "9999*9999*21+4790*9999+8416";
-    private static final String LEAST = "0-9999*9999*21-4790*9999-8417";
     private static final Bounds b = new Bounds();
 
     public static void main(String[] args) {
@@ -38,7 +36,8 @@ public final class BoundsOfTextsTest {
         b.bound("of each number the highest first", "BOYS 00 00",
                 "feed(1936024864, 825979749, 1696608827, 538976288, 168430090) = 20", "text(0, 0) = 2",
                 "beans(0, 1, 5) = 6");
-        b.bound("a byte above 127", "feed(-1, 0, 0, 0, 0)", "end(1)", "text(0, 0) = NONE", "fault(0) = 1", "fault(1) = 0");
+        b.bound("a byte above 127", "feed(-1, 0, 0, 0, 0)", "end(1)", "text(0, 0) = NONE", "fault(0) = 1",
+                "fault(1) = 0");
         // Blanks, then 10, 10, 10 and 128 as the lowest byte.
         b.bound("a byte of 128 is the lowest of its number", "feed(538976288, 168430208, 538976288, 0, 0)", "end(12)",
                 "text(1, 0) = NONE", "fault(0) = 1", "fault(1) = 7");
@@ -51,7 +50,8 @@ public final class BoundsOfTextsTest {
         b.bound("of an empty TAPE", "end(1) = false", "end(-1) = false", "end(0) = true");
         b.bound("all of its bytes", "feed(1, 2, 3, 4, 5)", "2 x end(20) = true", "feed(1, 2, 3, 4, 5) = 40");
         b.bound("none of its bytes", "feed(1, 2, 3, 4, 5)", "end(0) = true", "end(1) = false", "text(0, 0) = 0");
-        b.bound("its first n bytes alone", "feed(1, 2, 3, 4, 5)", "end(19) = true", "end(20) = false", "end(19) = true");
+        b.bound("its first n bytes alone", "feed(1, 2, 3, 4, 5)", "end(19) = true", "end(20) = false",
+                "end(19) = true");
         b.bound("the first ones stay, and they alone", "BOYS 00 00",
                 "feed(1936024864, 825979749, 1696608827, 538976288, 168430090)", "end(6)", "text(0, 0) = 1");
         b.bound("changing nothing", "BOYS 00 00", "feed(1936024864, 825979749, 1696608827, 538976288, 168430090)",
@@ -82,8 +82,8 @@ public final class BoundsOfTextsTest {
                 "end(1) = false");
         b.bound("a LAW with a FAULT stays as it was", "BOYS 00 00", "LAW 0: see 1;add 2;",
                 "LAW 0: see 5;see 6;see = 1 at 15", "beans(0, 1, 0) = 1", "day(0, 0, NONE)", "of(0, 101) = 2");
-        b.bound("a PLAN with a FAULT stays as it was", "PLAN 1: stir 1;beside;", "PLAN 1: apart;against 7;stir 2; = 2 at 21",
-                "plan(1) = 1", "kept(1, 7) = 2", "lot(1, 8) = 1");
+        b.bound("a PLAN with a FAULT stays as it was", "PLAN 1: stir 1;beside;",
+                "PLAN 1: apart;against 7;stir 2; = 2 at 21", "plan(1) = 1", "kept(1, 7) = 2", "lot(1, 8) = 1");
         b.bound("another TEXT stays as it was", "BOYS 00 00", "LAW 1: see 1;", "LAW 2: see 2;", "LAW 1: ; = 1 at 0",
                 "force(1)", "beans(0, 1, 0) = 1", "force(2)", "beans(0, 1, 0) = 2");
         b.bound("a shorter TEXT leaves nothing of a longer one", "BOYS 00 00", "LAW 0: add 1;add 2;see 3;slip 4;",
@@ -92,8 +92,13 @@ public final class BoundsOfTextsTest {
         b.bound("a full TAPE", "BOYS 00 00", "LAW 0: see1" + "+1".repeat(247) + "; = 1", "beans(0, 1, 0) = 248",
                 "LAW 0: see 7" + " ".repeat(495) + " = 1 at 500", "LAW 0: see 7;" + "\n".repeat(494) + " = 1",
                 "beans(0, 1, 0) = 7");
-        b.bound("a LAW is told while it is in force", "BOYS 00 00", "day(0, 0, NONE)", "LAW 0: add 3;", "day(0, 0, NONE)",
-                "LAW 0: ", "day(0, 0, NONE)", "of(0, 101) = 3");
+        b.bound("the last byte of a full TAPE", "LAW 0: " + " ".repeat(499) + "; = 1 at 499",
+                "LAW 0: " + "\n".repeat(494) + "see 1; = 1", "PLAN 0: " + " ".repeat(494) + "stir 2 = 2 at 499");
+        b.bound("told again and again", "BOYS 00 00",
+                "20 x LAW 0: " + "see 1 when 1=2;".repeat(15) + "see 4+2*5 when 1=1; = 16", "beans(0, 1, 0) = 14",
+                "20 x PLAN 0: " + "stir 1;apart;".repeat(12) + " = 24", "plan(0) = 12", "lot(1, 8) = 12");
+        b.bound("a LAW is told while it is in force", "BOYS 00 00", "day(0, 0, NONE)", "LAW 0: add 3;",
+                "day(0, 0, NONE)", "LAW 0: ", "day(0, 0, NONE)", "of(0, 101) = 3");
     }
 
     private static void fault() {
@@ -176,14 +181,14 @@ public final class BoundsOfTextsTest {
 
     private static void lines() {
         b.bound("how many lines: one", "LAW 0: see 1; = 1", "PLAN 0: stir 1; = 1");
-        b.bound("16 lines of a LAW", "BOYS 00 00", "LAW 0: " + "see 1 when 1=2;".repeat(15) + "see 7; = 16",
-                "beans(0, 1, 0) = 7");
+        b.bound("16 lines of a LAW", "BOYS 00 00",
+                "LAW 0: " + "see 1 when 1=2;".repeat(15) + "see 5+2*3 when 1=1; = 16", "beans(0, 1, 0) = 11");
         b.bound("(at its KEYWORD) the 17th line of a LAW", "LAW 0: " + "see 1;".repeat(17) + " = 3 at 96",
                 "LAW 0: " + "see 1;".repeat(16) + "  name = 3 at 98");
         b.bound("the 17th line is no FAULT when there is none", "LAW 0: " + "see 1;".repeat(16) + " \n = 16");
         b.bound("24 lines of a PLAN", "PLAN 0: " + "apart;".repeat(24) + " = 24", "plan(0) = 24", "look(2) = 24");
-        b.bound("24 lines of a PLAN, stir among them", "PLAN 0: " + "stir 1;apart;".repeat(12) + " = 24", "plan(0) = 12",
-                "lot(1, 8) = 12");
+        b.bound("24 lines of a PLAN, stir among them", "PLAN 0: " + "stir 1;apart;".repeat(12) + " = 24",
+                "plan(0) = 12", "lot(1, 8) = 12");
         b.bound("24 lines of stir", "PLAN 0: " + "stir 1;".repeat(24) + " = 24", "plan(0) = 0");
         b.bound("(at its KEYWORD) the 25th of a PLAN", "PLAN 0: " + "apart;".repeat(25) + " = 3 at 144",
                 "PLAN 0: " + "stir 0;".repeat(24) + "\nbeside = 3 at 169");
@@ -205,7 +210,8 @@ public final class BoundsOfTextsTest {
         b.bound("one that is closed is not open", when + "(1=1) and ".repeat(15) + "(1=1); = 1",
                 when + "not 1=1 or ".repeat(15) + "not 1=1; = 1", when + "(((((((1=1 and (1=1) and (1=1)))))))); = 1",
                 when + "(((((((not 1=1 and not 1=1 or (1=1)))))))); = 1");
-        b.bound("behind a not the C alone is its own", when + "not 1=1 and " + "(".repeat(8) + "1=1" + ")".repeat(8) + "; = 1",
+        b.bound("behind a not the C alone is its own",
+                when + "not 1=1 and " + "(".repeat(8) + "1=1" + ")".repeat(8) + "; = 1",
                 when + "not (1=1) and " + "(".repeat(8) + "1=1" + ")".repeat(8) + "; = 1");
         b.bound("the 9th behind others that stand in the 8th", when + "((((((((1=1 and not 1=1)))))))); = 3 at 27",
                 when + "((((((((1=1 or (1=1))))))))); = 3 at 26");
@@ -214,24 +220,30 @@ public final class BoundsOfTextsTest {
 
     private static void firstFault() {
         b.bound("the first by its place", "LAW 0: see ;see 1/0; = 1 at 4", "LAW 0: see 1/0;see ; = 2 at 6",
-                "LAW 0: see 1/0 see = 2 at 6", "PLAN 0: against 10;stir 2; = 2 at 8", "PLAN 0: stir;against 10; = 1 at 4");
-        b.bound("the first by its place: a line ahead of the 17th", "LAW 0: " + "see 1;".repeat(15) + "see 1/0;see 1; = 2 at 96",
-                "LAW 0: " + "see 1;".repeat(16) + "see 1/0; = 3 at 96", "LAW 0: see;" + "see 1;".repeat(16) + " = 1 at 3");
+                "LAW 0: see 1/0 see = 2 at 6", "PLAN 0: against 10;stir 2; = 2 at 8",
+                "PLAN 0: stir;against 10; = 1 at 4");
+        b.bound("the first by its place: a line ahead of the 17th",
+                "LAW 0: " + "see 1;".repeat(15) + "see 1/0;see 1; = 2 at 96",
+                "LAW 0: " + "see 1;".repeat(16) + "see 1/0; = 3 at 96",
+                "LAW 0: see;" + "see 1;".repeat(16) + " = 1 at 3");
         b.bound("the first by its place: ahead of the 9th that is open", "LAW 0: see when (((((((((1=1; = 1 at 4",
                 "LAW 0: see 1 when (((((((((1/0=1; = 3 at 19", "LAW 0: see 1/0 when (((((((((1=1; = 2 at 6");
         b.bound("at one place the least: what can't stand there as the 17th line",
                 "LAW 0: " + "see 1;".repeat(16) + "apart; = 1 at 96", "LAW 0: " + "see 1;".repeat(16) + "; = 1 at 96",
-                "LAW 0: " + "see 1;".repeat(16) + "seen 1; = 1 at 96", "PLAN 0: " + "apart;".repeat(24) + "add; = 1 at 144",
+                "LAW 0: " + "see 1;".repeat(16) + "seen 1; = 1 at 96",
+                "PLAN 0: " + "apart;".repeat(24) + "add; = 1 at 144",
                 "PLAN 0: " + "apart;".repeat(24) + "1; = 1 at 144");
-        b.bound("at one place the least: a ( that can't stand there as the 9th", "LAW 0: see 1 when ((((((((1=( = 1 at 21",
-                "LAW 0: see 1 when ((((((((1( = 1 at 20", "LAW 0: see 1 when ((((((((; = 1 at 19",
-                "LAW 0: see 1 when ((((((((1=not = 1 at 21");
+        b.bound("at one place the least: a ( that can't stand there as the 9th",
+                "LAW 0: see 1 when ((((((((1=( = 1 at 21", "LAW 0: see 1 when ((((((((1( = 1 at 20",
+                "LAW 0: see 1 when ((((((((; = 1 at 19", "LAW 0: see 1 when ((((((((1=not = 1 at 21");
     }
 
     private static void tokens() {
-        b.bound("letters as many as stand together", "LAW 0: see1;see 2;see\nday;see like; = 4", "LAW 0: seeday; = 1 at 0",
-                "LAW 0: see dayday; = 1 at 4", "LAW 0: see da; = 1 at 4", "LAW 0: se e 1; = 1 at 0",
-                "LAW 0: see 1 when1=1and 1=1; = 1", "LAW 0: see 1 whenday=1; = 1 at 6");
+        b.bound("letters as many as stand together", "LAW 0: see1;see 2;see\nday;see like; = 4",
+                "LAW 0: seeday; = 1 at 0", "LAW 0: see dayday; = 1 at 4", "LAW 0: see da; = 1 at 4",
+                "LAW 0: se e 1; = 1 at 0", "LAW 0: see 1 when1=1and 1=1; = 1", "LAW 0: see 1 whenday=1; = 1 at 6");
+        b.bound("capitals, too: A, Z, a, z", "LAW 0: see dayA; = 1 at 4", "LAW 0: see dayZ; = 1 at 4",
+                "LAW 0: see daya; = 1 at 4", "LAW 0: see dayz; = 1 at 4", "LAW 0: see 1A; = 1 at 5");
         b.bound("capitals, too", "LAW 0: See 1; = 1 at 0", "LAW 0: SEE 1; = 1 at 0", "LAW 0: see dayZ; = 1 at 4",
                 "LAW 0: see Aday; = 1 at 4", "LAW 0: see daz; = 1 at 4", "PLAN 0: aparT; = 1 at 0");
         b.bound("signs beside the letters are none", "LAW 0: see day@; = 1 at 7", "LAW 0: see day[; = 1 at 7",
@@ -241,14 +253,16 @@ public final class BoundsOfTextsTest {
                 "beans(0, 1, 0) = 0");
         b.bound("or none: 5 digits", "LAW 0: see 10000; = 1 at 4", "LAW 0: see 00000; = 1 at 4",
                 "LAW 0: see 1+99999; = 1 at 6", "LAW 0: see " + "1".repeat(400) + "; = 1 at 4");
-        b.bound("digits beside no digits", "LAW 0: see 1 1; = 1 at 6", "LAW 0: see 1:; = 1 at 5", "LAW 0: see 1.5; = 1 at 5",
-                "LAW 0: see 5day; = 1 at 5");
+        b.bound("digits beside no digits", "LAW 0: see 1 1; = 1 at 6", "LAW 0: see 1:; = 1 at 5",
+                "LAW 0: see 1.5; = 1 at 5", "LAW 0: see 5day; = 1 at 5");
         b.bound("; + - * / ( ) < = >", "LAW 0: see 1+2-3*4/5 when(1<2)and 1=1 or 2>1; = 1", "LAW 0: see 1,; = 1 at 5",
-                "LAW 0: see 1.; = 1 at 5", "LAW 0: see 1:; = 1 at 5", "LAW 0: see 1?; = 1 at 5", "LAW 0: see 1'; = 1 at 5",
-                "LAW 0: see 1%2; = 1 at 5", "LAW 0: see #; = 1 at 4", "LAW 0: see 1!; = 1 at 5");
+                "LAW 0: see 1.; = 1 at 5", "LAW 0: see 1:; = 1 at 5", "LAW 0: see 1?; = 1 at 5",
+                "LAW 0: see 1'; = 1 at 5", "LAW 0: see 1%2; = 1 at 5", "LAW 0: see #; = 1 at 4",
+                "LAW 0: see 1!; = 1 at 5");
         b.bound("Blanks (32, 10) between", "LAW 0: \n see \n 1 \n ; \n = 1", "LAW 0: see\t1; = 1 at 3",
-                "LAW 0: see 1;\r = 1 at 6", "LAW 0: see 1;" + (char) 11 + " = 1 at 6", "LAW 0: " + (char) 9 + "see 1; = 1 at 0",
-                "LAW 0: see 1;" + (char) 31 + " = 1 at 6", "LAW 0: see 1;" + (char) 33 + " = 1 at 6");
+                "LAW 0: see 1;\r = 1 at 6", "LAW 0: see 1;" + (char) 11 + " = 1 at 6",
+                "LAW 0: " + (char) 9 + "see 1; = 1 at 0", "LAW 0: see 1;" + (char) 31 + " = 1 at 6",
+                "LAW 0: see 1;" + (char) 33 + " = 1 at 6");
         b.bound("bytes 0, 127, 128, 160, 255 are none", "LAW 0: see 1;" + (char) 0 + " = 1 at 6",
                 "LAW 0: see 1;" + (char) 127 + " = 1 at 6", "LAW 0: see 1;" + (char) 128 + " = 1 at 6",
                 "PLAN 0: apart;" + (char) 160 + " = 1 at 6", "PLAN 0: apart" + (char) 255 + "; = 1 at 5",
@@ -269,28 +283,36 @@ public final class BoundsOfTextsTest {
     }
 
     private static void sums() {
-        sees("Ints, which wrap: +", "1 when " + MOST + "+1<0", "901", "1 when " + MOST + ">0", "901",
-                "1 when " + MOST + "+1=" + LEAST, "901");
-        sees("Ints, which wrap: -", "1 when " + LEAST + "-1>0", "901", "1 when " + LEAST + "<0", "901",
-                "1 when " + LEAST + "-1=" + MOST, "901");
+        sees("Ints, which wrap: +", "1 when " + Checks.MOST + "+1<0", "901", "1 when " + Checks.MOST + ">0", "901",
+                "1 when " + Checks.MOST + "+1=" + Checks.LEAST, "901");
+        sees("Ints, which wrap: -", "1 when " + Checks.LEAST + "-1>0", "901", "1 when " + Checks.LEAST + "<0", "901",
+                "1 when " + Checks.LEAST + "-1=" + Checks.MOST, "901");
         sees("Ints, which wrap: *", "1 when 4096*4096*128<0", "901", "1 when 4096*4096*256=0", "901",
                 "1 when 9999*9999*9999<0", "901", "1 when like*4096*4096*128=0-4096*4096*128", "901");
-        sees("/ goes towards 0", "like/2", "897", "like/7", "899", "like/8", "900", "back/2", "900", "7/2", "903", "9/10",
-                "900", "like/9999", "900");
-        sees("/ of the least int", "1 when 4096*4096*128/1=" + LEAST, "901", "1 when 4096*4096*128/2=0-4096*4096*64", "901",
-                "1 when 4096*4096*128/9999=0-21*9999-4790", "901", "1 when 4096*4096*128/9999/9999/9999=0", "901");
-        sees("* and / from the left, ahead of + and -", "7/2*2", "906", "7*2/4", "903", "1-2-3", "896", "1-2*3+4", "899",
-                "8/2/2", "902", "10-6/3", "908");
+        sees("/ goes towards 0", "like/2", "897", "like/7", "899", "like/8", "900", "back/2", "900", "7/2", "903",
+                "9/10", "900", "like/9999", "900");
+        sees("/ of the least int", "1 when 4096*4096*128/1=" + Checks.LEAST, "901",
+                "1 when 4096*4096*128/2=0-4096*4096*64", "901", "1 when 4096*4096*128/9999=0-21*9999-4790", "901",
+                "1 when 4096*4096*128/9999/9999/9999=0", "901");
+        sees("* and / from the left, ahead of + and -", "7/2*2", "906", "7*2/4", "903", "1-2-3", "896", "1-2*3+4",
+                "899", "8/2/2", "902", "10-6/3", "908");
     }
 
     private static void claims() {
-        sees("< = >", "1 when 1<2", "901", "1 when 2<2", "900", "1 when 2=2", "901", "1 when 2=3", "900", "1 when 3>2", "901",
-                "1 when 2>2", "900", "1 when 0-1<0", "901", "1 when " + LEAST + "<" + MOST, "901",
-                "1 when " + MOST + ">" + LEAST, "901", "1 when " + MOST + "<" + LEAST, "900");
+        sees("< = >", "1 when 1<2", "901", "1 when 2<2", "900", "1 when 2=2", "901", "1 when 2=3", "900", "1 when 3>2",
+                "901", "1 when 2>2", "900", "1 when 0-1<0", "901", "1 when " + Checks.LEAST + "<" + Checks.MOST, "901",
+                "1 when " + Checks.MOST + ">" + Checks.LEAST, "901", "1 when " + Checks.MOST + "<" + Checks.LEAST,
+                "900");
         sees("and ahead of or", "1 when 1=1 or 1=1 and 1=2", "901", "1 when 1=2 and 1=1 or 1=1", "901",
                 "1 when (1=1 or 1=1) and 1=2", "900", "1 when 1=2 or 1=2", "900", "1 when 1=1 and 1=1", "901");
-        sees("not of its C alone", "1 when not 1=2 and 1=2", "900", "1 when not (1=2 and 1=2)", "901", "1 when not 1=1 or 1=1",
-                "901", "1 when not not 1=1", "901", "1 when not not not 1=1", "900");
+        sees("< = > beside and, or, not", "1 when 1<2 and 1=1", "901", "1 when 2>1 and 1=1", "901",
+                "1 when 1<2 and 2>1 and 3=3", "901", "1 when not 1<2", "900", "1 when not 2>1", "900", "1 when not 2<1",
+                "901", "1 when 1<2 or 1=2", "901");
+        sees("( B ) behind another C", "1 when 1=1 and (1=2)", "900", "1 when 1=1 and (1=2 or 1=3)", "900",
+                "1 when 1=2 or (1=1 and 1=2)", "900", "1 when 1=2 or (1=2 or 1=1)", "901",
+                "1 when 1=1 and (1=2 or (1=1 and (2=2)))", "901");
+        sees("not of its C alone", "1 when not 1=2 and 1=2", "900", "1 when not (1=2 and 1=2)", "901",
+                "1 when not 1=1 or 1=1", "901", "1 when not not 1=1", "901", "1 when not not not 1=1", "900");
     }
 
     private static void told() {

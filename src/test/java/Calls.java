@@ -5,7 +5,7 @@ import java.util.Arrays;
 import java.util.HashMap;
 import java.util.Map;
 
-/** Calls by their names, done on the class and on the model alike: told as texts, "boy(0, 5)", or as name and numbers. */
+/** Calls done on the class and on the model alike: told as texts, "boy(0, 5)", or as name and numbers. */
 final class Calls {
     private static final Map<String, Method> OF_CLASS = methods(TwoCamps.class);
     private static final Map<String, Method> OF_MODEL = methods(Model.class);
@@ -25,6 +25,20 @@ final class Calls {
             }
         }
         return all;
+    }
+
+    /** How often a step is done: "3 x boy(0, 5)" three times. */
+    static int times(String step) {
+        return isMany(step) ? Integer.parseInt(step.substring(0, step.indexOf(" x "))) : 1;
+    }
+
+    /** The call of a step. */
+    static String callOf(String step) {
+        return isMany(step) ? step.substring(step.indexOf(" x ") + 3) : step;
+    }
+
+    private static boolean isMany(String step) {
+        return step.matches("(?s)[0-9]+ x .*");
     }
 
     /** "boy(0, 5)", "LAW 0: see 1;", "PLAN 3: apart;" or "BOYS 05 13" (LOT and STRENGTH of each). */

@@ -3,6 +3,10 @@ import java.util.Arrays;
 
 /** Counts the answers of one test that are not as due, and feeds texts. */
 final class Checks {
+    /** The most and the least int as an E: no NUMBER has more than four digits. */
+    static final String MOST = "9999*9999*21+4790*9999+8416";
+    static final String LEAST = "0-9999*9999*21-4790*9999-8417";
+
     private int asked;
     private int wrong;
 

@@ -1,8 +1,6 @@
 /** Promises 10 to 12, 14, 15: force, day, plan, lot, kept, and how a DAY goes by. */
 public final class DaysTest {
     private static final int NONE = TwoCamps.NONE;
-    private static final String MOST = "9999*9999*21+4790*9999+8416";
-    private static final String LEAST = "0-9999*9999*21-4790*9999-8417";
     private static final Checks c = new Checks();
 
     public static void main(String[] args) {
@@ -121,7 +119,7 @@ public final class DaysTest {
         TwoCamps y = Checks.four();
         y.like(0, 1, 50);
         y.like(1, 0, -50);
-        Checks.law(y, 0, "add " + MOST + " when like>0;add " + LEAST + " when like<0;");
+        Checks.law(y, 0, "add " + Checks.MOST + " when like>0;add " + Checks.LEAST + " when like<0;");
         y.day(2, 0, NONE);
         c.due("added wholly", y.of(0, 101), 50);
         c.due("taken wholly", y.of(1, 100), -50);

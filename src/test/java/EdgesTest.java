@@ -48,10 +48,8 @@ public final class EdgesTest {
     private Calls made() {
         Calls calls = new Calls();
         for (String step : wood) {
-            boolean isMany = step.matches("(?s)[0-9]+ x .*");
-            int times = isMany ? Integer.parseInt(step.substring(0, step.indexOf(" x "))) : 1;
-            for (int k = 0; k < times; k++) {
-                calls.call(isMany ? step.substring(step.indexOf(" x ") + 3) : step);
+            for (int k = 0; k < Calls.times(step); k++) {
+                calls.call(Calls.callOf(step));
             }
         }
         return calls;
@@ -59,37 +57,40 @@ public final class EdgesTest {
 
     private void callAll() {
         Object[] one = {MIN, -2, -1, 0, 1, 2, 3, 4, 5, 9, 10, 30, 31, 60, 61, 1000, MAX};
-        all("boy", new Object[] {MIN, -1, 0, 1, 2, MAX}, new Object[] {MIN, -1, 0, 9, 10, MAX});
-        all("like", BOYS, BOYS, new Object[] {MIN, -51, -50, 0, 50, 51, MAX});
+        all("boy", at(MIN, -1, 0, 1, 2, MAX), at(MIN, -1, 0, 9, 10, MAX));
+        all("like", BOYS, BOYS, at(MIN, -51, -50, 0, 50, 51, MAX));
         all("knew", BOYS, BOYS, YES_NO);
-        all("state", new Object[] {MIN, -1, 0, 1, MAX});
-        all("feed", new Object[] {MIN, -1, 0x20202020}, new Object[] {0}, new Object[] {MAX}, new Object[] {1},
-                new Object[] {0x3b3b3b3b});
-        all("end", new Object[] {MIN, -1, 0, 1, 19, 20, 21, 480, 481, 482, 499, 500, 501, MAX});
-        all("text", new Object[] {MIN, -1, 0, 1, 2, MAX}, TEXTS);
+        all("state", at(MIN, -1, 0, 1, MAX));
+        all("feed", at(MIN, -1, 0x20202020), at(0), at(MAX), at(1), at(0x3b3b3b3b));
+        all("end", at(MIN, -1, 0, 1, 19, 20, 21, 480, 481, 482, 499, 500, 501, MAX));
+        all("text", at(MIN, -1, 0, 1, 2, MAX), TEXTS);
         all("fault", one);
         all("force", TEXTS);
-        all("day", new Object[] {MIN, -1, 0, 1, 2, 3, 4, MAX}, new Object[] {MIN, -1, 0, 1, 9, 10, MAX},
-                new Object[] {MIN, -2, -1, 0, 1, 2, MAX});
+        all("day", at(MIN, -1, 0, 1, 2, 3, 4, MAX), at(MIN, -1, 0, 1, 9, 10, MAX),
+                at(MIN, -2, -1, 0, 1, 2, MAX));
         all("plan", TEXTS);
         all("of", BOYS, WHATS);
-        all("lot", new Object[] {MIN, -1, 0, 1, 2, MAX}, WHATS);
-        all("kept", new Object[] {MIN, -1, 0, 1, 2, 3, 59, 60, 61, MAX}, WHATS);
-        all("beans", BOYS, BOYS, new Object[] {MIN, -1, 0, 999, 1000, MAX});
-        all("seen", new Object[] {MIN, -1, 0, 999, 1000, MAX}, WHATS);
-        all("led", TEXTS, TEXTS, YES_NO, new Object[] {MIN, -1, 0, 1, 2, 3, 4, 5, 6, 7, MAX});
-        all("least", TEXTS, new Object[] {MIN, -1, 0, 1, 9, 10, MAX});
+        all("lot", at(MIN, -1, 0, 1, 2, MAX), WHATS);
+        all("kept", at(MIN, -1, 0, 1, 2, 3, 59, 60, 61, MAX), WHATS);
+        all("beans", BOYS, BOYS, at(MIN, -1, 0, 999, 1000, MAX));
+        all("seen", at(MIN, -1, 0, 999, 1000, MAX), WHATS);
+        all("led", TEXTS, TEXTS, YES_NO, at(MIN, -1, 0, 1, 2, 3, 4, 5, 6, 7, MAX));
+        all("least", TEXTS, at(MIN, -1, 0, 1, 9, 10, MAX));
         all("back", TEXTS);
         all("row", one);
-        all("parts", new Object[] {MIN, -1, 0, 4, MAX}, new Object[] {-1, 3, 4}, new Object[] {MIN, -1, 0, 1, 2, 3, 5, 6, MAX});
-        all("told", new Object[] {MIN, -1, 0, 1, 24, 25, MAX}, new Object[] {MIN, -101, -100, -99, -51, -50, 50, 51, MAX});
+        all("parts", at(MIN, -1, 0, 4, MAX), at(-1, 3, 4), at(MIN, -1, 0, 1, 2, 3, 5, 6, MAX));
+        all("told", at(MIN, -1, 0, 1, 24, 25, MAX), at(MIN, -101, -100, -99, -51, -50, 50, 51, MAX));
         all("off", TEXTS, TEXTS);
         all("fitting", TEXTS);
-        all("number", BOYS, new Object[] {MIN, -1, 0, 99, 100, MAX});
-        all("cut", new Object[] {MIN, -1, 1, 3, MAX});
-        all("woods", new Object[] {MIN, -1, 0, 9, 10, MAX}, new Object[] {MIN, 0, 1, 2, 100000, 100001, MAX});
+        all("number", BOYS, at(MIN, -1, 0, 99, 100, MAX));
+        all("cut", at(MIN, -1, 1, 3, MAX));
+        all("woods", at(MIN, -1, 0, 9, 10, MAX), at(MIN, 0, 1, 2, 100000, 100001, MAX));
         all("image", YES_NO);
         all("look", one);
+    }
+
+    private static Object[] at(Object... numbers) {
+        return numbers;
     }
 
     /** The call with all of these numbers, each with each. */

@@ -1,8 +1,6 @@
 /** Promises 13, 16, 17: of, beans, seen, and who stays LOYAL. */
 public final class SlipsTest {
     private static final int NONE = TwoCamps.NONE;
-    private static final String MOST = "9999*9999*21+4790*9999+8416";
-    private static final String LEAST = "0-9999*9999*21-4790*9999-8417";
     private static final Checks c = new Checks();
 
     public static void main(String[] args) {
@@ -93,7 +91,7 @@ public final class SlipsTest {
         x.like(0, 4, -6);
         x.like(0, 5, -5);
         three("like where none holds", x, 0, 3, 1, 2);
-        Checks.law(x, 0, "slip " + LEAST + " when strong=1;slip " + MOST + " when strong=2;");
+        Checks.law(x, 0, "slip " + Checks.LEAST + " when strong=1;slip " + Checks.MOST + " when strong=2;");
         three("far apart", x, 0, 2, 3, 5);
         Checks.law(x, 1, "slip 0-like;");
         x.force(1);
@@ -231,7 +229,7 @@ public final class SlipsTest {
         Checks.law(x, 0, "see 9999;");
         c.due("9999", x.beans(0, 1, 0), 9999);
         c.due("held to 9999", x.beans(0, 1, 999), 9999);
-        Checks.law(x, 0, "see " + MOST + ";");
+        Checks.law(x, 0, "see " + Checks.MOST + ";");
         c.due("added wholly", x.beans(0, 1, 999), 9999);
         Checks.law(x, 0, "see own+across+size;");
         c.due("the others are 0", x.beans(0, 1, 3), 3);
