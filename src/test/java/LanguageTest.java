@@ -1,6 +1,10 @@
 import java.io.IOException;
 import java.nio.file.Files;
 import java.nio.file.Path;
+import java.util.HashMap;
+import java.util.HashSet;
+import java.util.Map;
+import java.util.Set;
 import java.util.regex.Matcher;
 import java.util.regex.Pattern;
 
@@ -24,6 +28,12 @@ public final class LanguageTest {
         c.due("import java.util.Arrays", count("(?m)^import java\\.util\\.Arrays;", code), 1);
         c.due("twelve classes at most", count("\\bclass \\w+ \\{", code) <= 12, true);
         methods(c, code);
+        Map<String, String> bodies = bodies(code);
+        c.due("methods found", bodies.size() > 100, true);
+        for (String method : bodies.keySet()) {
+            int deep = deepest(bodies, method, new HashSet<>());
+            c.due(method + " goes " + deep + " deep", deep <= 8, true);
+        }
         c.end("LanguageTest");
     }
 
@@ -61,5 +71,48 @@ public final class LanguageTest {
                 c.due("fields up to " + line.strip(), fields <= 20, true);
             }
         }
+    }
+
+    /** What stands in each method, by "Class.method"; some bear one name in several classes. */
+    private static Map<String, String> bodies(String code) {
+        Map<String, String> bodies = new HashMap<>();
+        String inner = "TwoCamps";
+        String method = null;
+        String end = null;
+        for (String line : code.split("\n")) {
+            Matcher start = Pattern.compile("( {4,8})(?:public|private) [^;=]*?(\\w+)\\(.*\\{").matcher(line);
+            if (line.contains(" class ")) {
+                inner = line.replaceAll(".* class (\\w+) .*", "$1");
+            } else if (method == null && start.matches()) {
+                method = (start.group(1).length() == 4 ? "TwoCamps" : inner) + "." + start.group(2);
+                end = start.group(1) + "}";
+                bodies.put(method, "");
+            } else if (line.equals(end)) {
+                method = null;
+            } else if (method != null) {
+                bodies.merge(method, line + "\n", String::concat);
+            }
+        }
+        return bodies;
+    }
+
+    /** How many calls stand open at most, those that recur counted once. */
+    private static int deepest(Map<String, String> bodies, String method, Set<String> open) {
+        int deepest = 0;
+        open.add(method);
+        Matcher call = Pattern.compile("(\\.?)\\b(\\w+)\\(").matcher(bodies.get(method));
+        while (call.find()) {
+            String name = "." + call.group(2);
+            String own = method.substring(0, method.indexOf('.')) + name;
+            for (String called : bodies.keySet()) {
+                boolean isMeant = !call.group(1).isEmpty() ? called.endsWith(name)
+                        : called.equals(bodies.containsKey(own) ? own : "TwoCamps" + name);
+                if (isMeant && !open.contains(called)) {
+                    deepest = Math.max(deepest, deepest(bodies, called, open));
+                }
+            }
+        }
+        open.remove(method);
+        return deepest + 1;
     }
 }
